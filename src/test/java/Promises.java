@@ -575,6 +575,7 @@ public final class Promises {
         due("18 it bears that", x.limited(1234, 10), 1234);
         due("18 k stays", x.limited(1238, 8), 8);
         due("18 32", x.limited(8888, 32), 8888);
+        due("18 CODE 0", x.limited(0, 8), 0);
         due("18 7", x.limited(0, 7), -1);
         due("18 33", x.limited(0, 33), -1);
         due("18 no CODE", x.limited(9, 8), -1);
@@ -692,6 +693,10 @@ public final class Promises {
         row("23 nothing", x);
         due("23 without a DISTANCE", x.way(0, 33, 0), 6);
         row("23", x, 1);
+        due("23 a single change", x.way(0, 1000, 7500), 1);
+        row("23", x, 1000);
+        due("23 a single change", x.way(1, 0, 0), 1);
+        row("23 CODE 0", x, 0);
         due("23 below 0", x.way(0, 1, -1), -2);
         due("23 the least CODE", x.way(2222, 0, 7500), 8);
         row("23", x, 1222);
@@ -822,7 +827,9 @@ public final class Promises {
         due("29 OPEN or not", x.sources(3888), 2);
         due("29 no CODE", x.sources(9), -1);
         row("29 the ROW stays", x, 6888, 7888);
-        due("29 all into one", withLink("wc0wm0wy0wk0").sources(0), 6561);
+        x = withLink("wc0wm0wy0wk0");
+        due("29 all into one", x.sources(0), 6561);
+        row("29 all into one", x, 0, 8888);
     }
 
     private static void p30Rounds() {
@@ -833,6 +840,8 @@ public final class Promises {
         due("30 83, 38, 53, 35, 53", x.rounds(8300), 2);
         row("30", x, 2, 3500);
         x = new InkFolds();
+        due("30 CODE 0", x.rounds(0), 0);
+        row("30", x, 1, 0);
         due("30 no LINK", x.rounds(5), 0);
         row("30", x, 1, 5);
         due("30 no CODE", x.rounds(9), -1);
@@ -868,6 +877,14 @@ public final class Promises {
         row("31", x, 0, 0, 0, 0, 4 * 675);
         due("31 385, 378, 377, 363", x.press(1), 2);
         row("31 the last is 350", x, 1, 0, 0, 0, 3 * 675 + 3675);
+        String side = "cccccccc";
+        for (int i = 0; i < 7; i++) {
+            side += "/cccccccc";
+        }
+        InkFolds full = painted(side);
+        due("31 64 CELLS", full.press(0), 1);
+        due("31 64 CELLS", full.press(1), 2);
+        due("31 the last of 64", full.cell(1, 63) % 1000, 0);
         x.sets(1, 4);
         due("31 black", x.press(0), 1);
         row("31 black", x, 0, 0, 0, 32, 4 * 675);
@@ -954,6 +971,8 @@ public final class Promises {
         due("35 the least of k", x.replaces(2, 1000, 0), 1000);
         due("35 within d", x.replaces(1, 1000, 7500), 0);
         due("35 within d", x.replaces(0, 1000, 7499), 1);
+        due("35 CODE 0", x.replaces(0, 0, 0), 0);
+        row("35 CODE 0", x, 81);
         due("35 none", x.replaces(0, 1000, -1), -2);
         x.sets(3, 0);
         due("35 OPEN ones", x.replaces(0, 1, 0), 1000);
@@ -1028,6 +1047,13 @@ public final class Promises {
         due("38 a question", x.light(27, 0), 50);
         x.keep(0);
         due("38 the same", x.other(0), 0);
+        x = white();
+        x.sets(0, 11);
+        x.sets(3, 0);
+        x.keep(0);
+        x.measure(75, 99, 100, 100);
+        due("38 2210 counts in one alone", x.other(0), 1);
+        row("38 once, by 1", x, 1, 5510);
     }
 
     private static void p39Carry() {
