@@ -1,5 +1,9 @@
+import java.lang.reflect.InvocationTargetException;
+import java.lang.reflect.Method;
+import java.lang.reflect.Modifier;
 import java.math.BigInteger;
 import java.util.ArrayList;
+import java.util.Arrays;
 import java.util.HashMap;
 import java.util.List;
 import java.util.Map;
@@ -527,6 +531,10 @@ public final class Edges {
             InkFolds x = new InkFolds();
             due("DISTANCE of one", x.paints(0, 1, 0, 0), 1);
             due("DISTANCE of all", x.paints(0, 400, 400, 400), 399 * 399 + 2 * 160000);
+            x.sets(5, 2);
+            x.sets(6, 3);
+            due("each BAND has its WEIGHT", x.paints(0, 390, 380, 370), 100 + 2 * 400 + 3 * 900);
+            x.paints(0, 400, 400, 400);
             due("WEIGHT at first", x.sets(4, 9), 1);
             x.sets(5, 9);
             x.sets(6, 9);
@@ -700,6 +708,12 @@ public final class Edges {
             due("all alike: the first", x.fold(300, 300, 300), 0);
             row(x, 300, 300, 300, 30000);
             due("the last", x.fold(400, 0, 0), 8);
+            InkFolds y = new InkFolds();
+            for (int patch : PLAIN) {
+                y.measure(patch, 92, 100, 100);
+            }
+            due("t 9, nearer to 368, 400, 400, is none", y.fold(400, 364, 364), 8);
+            row(y, 376, 376, 376, 64 + 2 * 576);
             due("1 .. 8 are alike", x.fold(301, 300, 299), 1);
             row(x, 300, 300, 300, 30000);
         });
@@ -758,6 +772,11 @@ public final class Edges {
             goes("g3", 1880, 1880);
             goes("g3", 2880, 1771);
             goes("g4", 1880, 771);
+            goes("g4", 8180, 7071);
+            goes("g4", 8810, 7701);
+            goes("g4", 2340, 122);
+            goes("g4", 4230, 2012);
+            goes("g4", 3420, 1202);
             goes("g4", 880, 880);
             goes("g4", 8088, 8088);
             goes("g4", 8880, 8);
@@ -778,6 +797,9 @@ public final class Edges {
             goes("u8", 808, 808);
             goes("u2", 608, 2826);
             goes("u8", 605, 2823);
+            goes("u8", 65, 2283);
+            goes("u8", 6125, 8343);
+            goes("u8", 1265, 3483);
         });
         edge("terms 1, a: d more (8 at most)", () -> {
             goes("ac8", 0, 8000);
@@ -858,6 +880,12 @@ public final class Edges {
             due("twice", linked("ac1am1", "pp").through(0), 2200);
             due("of the one ahead alone", linked("ac1", "am1", "p").through(0), 100);
             due("never", linked("ac1", "n0(p)").through(0), 0);
+            InkFolds deep = linked("n1(oc(jcm(ac1)))am1", "n1(n1(n1(p)))", "n1(n1(n1(p)))", "n1(n1(n1(p)))", "n1(n1(n1(p)))",
+                "n1(n1(n1(p)))");
+            due("six tellings, 3 deep each: AGE", deep.count(6), 6);
+            due("LONG", deep.count(5), 1 + 1 + 8 * 2 + 1 + 5 * 3);
+            due("six tellings, 3 deep each", deep.through(1000), 2100);
+            due("six tellings, 3 deep each", deep.sources(2100), 1);
             InkFolds x = new InkFolds();
             x.sets(0, 8);
             say(x, "l").link();
@@ -870,6 +898,10 @@ public final class Edges {
         edge("terms 1, ( ) stand in one another 3 deep at most, with STEPS or none", () -> {
             due("3 deep", linked("n1(n2(n3(ac1)))").through(0), 6000);
             due("none in them", linked("n1(oc(ic1()))").through(1234), 1234);
+            goes("n2(n1(ac1)am1)", 0, 2200);
+            goes("n2(n2(n2(ac1)am1)ay1)", 0, 8420);
+            goes("n2(n0(ac1)n0(ac1)am1)ay1", 0, 210);
+            longOf(5, "n2(n1()l)");
             due("one behind another", linked("n1(n1(n1()n1())n1(n1()))n1()").count(5), 7);
             noLink("n1(n1(n1(n1())))", 11);
             noLink("n1(oc(ic1(jcm())))", 13);
@@ -960,7 +992,33 @@ public final class Edges {
         }
     }
 
+    private static void rowIsToldAnew() {
+        Call[] tell = {x -> x.colour(4567), x -> x.match(9, 9, 9), x -> x.fold(400, 0, 0), x -> x.prints(0, 0, 400),
+            x -> x.ramp(0, 8888), x -> x.way(0, 1000, 99999), x -> x.rises(0), x -> x.reach(1), x -> x.spread(), x -> x.odds(1, 2, 3, 4),
+            x -> x.sources(0), x -> x.rounds(7), x -> x.press(0), x -> x.press(1), x -> x.slips(0, 1, 1), x -> x.greys(0, 30),
+            x -> x.replaces(0, 0, 99), x -> x.doubt(), x -> x.asks(), x -> x.other(1), x -> x.carry(1, 77), x -> x.drifts(5, 40),
+            x -> say(x, "").day()};
+        for (Maker maker : new Maker[] {HALF, FULL}) {
+            InkFolds x = maker.make();
+            for (int i = 0; i < tell.length; i++) {
+                List<Long> alone = new ArrayList<>();
+                InkFolds y = maker.make();
+                alone.add(tell[i].of(y));
+                tellRow(y, alone);
+                List<Long> behindAll = new ArrayList<>();
+                behindAll.add(tell[i].of(x));
+                tellRow(x, behindAll);
+                List<Long> again = new ArrayList<>();
+                again.add(tell[i].of(x));
+                tellRow(x, again);
+                yes("call " + i + " behind others", alone.equals(behindAll));
+                yes("call " + i + " again", alone.equals(again));
+            }
+        }
+    }
+
     private static void termsOfTheRow() {
+        edge("terms 2, ROW: numbers told last by a call that says so", Edges::rowIsToldAnew);
         edge("terms 2, questions change nothing", Edges::questionsChangeNothing);
         edge("terms 2, fractions are told in lowest terms (0 by 1)", () -> {
             InkFolds x = stairs(0);
@@ -980,6 +1038,23 @@ public final class Edges {
             refusedText("q", -1, x -> x.picture());
             refusedText("q", -1, x -> x.day());
             refused("another call", -1, x -> x.sets(0, 7));
+        });
+        edge("terms 2, a call that reads THE TEXT empties it, refused or not", () -> {
+            String[] read = {"1111102030", "011111118", "g1", "ab/cd", "t3g4", "", "1", "x"};
+            Call[] calls = {x -> x.patches(), x -> x.curve(0), x -> x.link(), x -> x.picture(), x -> x.day(), x -> x.curve(9)};
+            for (int i = 0; i < calls.length; i++) {
+                for (String s : read) {
+                    InkFolds x = say(new InkFolds(), s);
+                    yes("call " + i, calls[i].of(x) > -100);
+                    due("signs behind call " + i + " of " + s, x.count(11), 0);
+                }
+            }
+            InkFolds x = say(new InkFolds(), "n9(n9(n9(l)))");
+            due("too long", x.link(), -200);
+            due("signs", x.count(11), 0);
+            x = say(aged(), "p");
+            due("too old", x.link(), -201);
+            due("signs", x.count(11), 0);
         });
         edge("terms 2, NONE comes ahead of other answers below 0", () -> {
             InkFolds x = new InkFolds();
@@ -1896,7 +1971,7 @@ public final class Edges {
             Call[] changes = {x -> say(x, "1111102030").patches(), x -> say(x, "000000000").curve(1), x -> say(x, "sc8").link(),
                 x -> say(x, "a").picture(), x -> x.measure(9, 1, 2, 3), x -> x.forgets(40), x -> x.sets(5, 9), x -> x.paints(4, 9, 9, 9),
                 x -> say(x, "t3").day(), x -> say(x, "").patches(), x -> say(x, "").curve(1), x -> say(x, "").link(),
-                x -> say(x, "").picture(), x -> say(x, "t3t3").day()};
+                x -> say(x, "").picture(), x -> say(x, "t3t3").day(), x -> say(x, "dd/dd").picture()};
             for (int i = 0; i < changes.length; i++) {
                 InkFolds x = half();
                 yes("change " + i, changes[i].of(x) >= 0);
@@ -1979,6 +2054,15 @@ public final class Edges {
         edge("19, match: NONE: one is not 0 .. 400", () -> noSuchColours("match", 400, (x, r, q, b) -> x.match(r, q, b)));
         edge("20, fold: NONE: one is not 0 .. 400", () -> noSuchColours("fold", 400, (x, r, q, b) -> x.fold(r, q, b)));
         edge("21, prints: NONE: one is not 0 .. 400", () -> noSuchColours("prints", 400, (x, r, q, b) -> x.prints(r, q, b)));
+        edge("21, prints: MATCH of what THE FOLD makes of them; DISTANCE to r, q, b", () -> {
+            InkFolds x = stairs(0);
+            due("M 133, nearest to 150", x.prints(400, 0, 0), 5000);
+            row(x, 150, 150, 150, 250 * 250 + 2 * 150 * 150);
+            due("M 132, nearest to 150", x.prints(0, 397, 1), 5000);
+            row(x, 150, 150, 150, 150 * 150 + 247 * 247 + 149 * 149);
+            due("M 175 is a draw, less ink", x.prints(350, 175, 0), 4000);
+            due("M 174", x.prints(0, 174, 348), 5000);
+        });
         edge("21, prints: done by THE LINK, what is not OPEN too", () -> {
             InkFolds x = stairs(0);
             x.sets(0, 8);
@@ -2009,6 +2093,33 @@ public final class Edges {
             due("alike", x.ramp(3000, 3000), 0);
             row(x, 3000, 3000, 3000, 3000, 3000, 3000, 3000, 3000, 3000);
         });
+        edge("22, ramp: nine CODES, from k 0 to 8, by how much one AMOUNT changes at most", () -> {
+            InkFolds x = white();
+            x.measure(54, 50, 50, 50);
+            x.measure(1, 94, 94, 94);
+            x.sets(1, 0);
+            x.sets(3, 0);
+            due("400 .. 376 are nearer to 400 than to 350", x.ramp(0, 4), 0);
+            row(x, 0, 0, 0, 0, 0, 0, 0, 0, 0);
+            x.sets(3, 8);
+            x.measure(1, 93, 93, 93);
+            x.sets(3, 0);
+            due("372 is nearer to 350", x.ramp(0, 4), 5);
+            row(x, 0, 0, 0, 0, 0, 0, 0, 0, 5000);
+            x.measure(1, 37, 37, 37);
+            x.measure(54, 36, 36, 36);
+            due("from 400 to 336 at once", x.ramp(0, 3), 5);
+            due("CODE 0 is the first", x.row(0), 0);
+        });
+        edge("22, ramp: each BAND goes its own way", () -> {
+            InkFolds x = new InkFolds();
+            due("one ink", x.ramp(4000, 0), 1);
+            row(x, 4000, 3000, 3000, 2000, 2000, 1000, 1000, 0, 0);
+            due("one ink", x.ramp(0, 400), 1);
+            row(x, 0, 0, 100, 100, 200, 200, 300, 300, 400);
+            due("one ink", x.ramp(40, 0), 1);
+            row(x, 40, 30, 30, 20, 20, 10, 10, 0, 0);
+        });
     }
 
     private static void way() {
@@ -2031,6 +2142,10 @@ public final class Edges {
             row(x, 111);
             due("the least first change", x.way(1111, 2222, 0), 4);
             row(x, 1112);
+            due("to CODE 0", x.way(1, 0, 0), 1);
+            row(x, 0);
+            due("by CODE 0", x.way(1, 1000, 0), 2);
+            row(x, 0);
             due("no change", x.way(1111, 1111, 0), 0);
             row(x);
             due("no change, d below 0", x.way(8888, 8888, -1), 0);
@@ -2151,6 +2266,40 @@ public final class Edges {
         });
     }
 
+    /** Asks for COLOURS of all OPEN ones, of a few of each object. */
+    private static void spreadOf(Maker maker) {
+        InkFolds x = maker.make();
+        int limit = x.count(1);
+        int top = x.count(4);
+        Map<String, Integer> howMany = new HashMap<>();
+        Map<String, Integer> leastCode = new HashMap<>();
+        int open = 0;
+        for (int code = 0; code <= 8888; code++) {
+            int total = code / 1000 + code / 100 % 10 + code / 10 % 10 + code % 10;
+            if (!fitsCode(code) || total > limit || code % 10 > top) {
+                continue;
+            }
+            if (open % 100 == 0) {
+                x = maker.make();
+            }
+            open++;
+            x.colour(code);
+            String colour = x.row(0) + " " + x.row(1) + " " + x.row(2);
+            howMany.merge(colour, 1, Integer::sum);
+            leastCode.putIfAbsent(colour, code);
+        }
+        String best = "";
+        for (String colour : howMany.keySet()) {
+            int more = best.isEmpty() ? 1 : howMany.get(colour) - howMany.get(best);
+            if (more > 0 || more == 0 && leastCode.get(colour) < leastCode.get(best)) {
+                best = colour;
+            }
+        }
+        x = maker.make();
+        due("spread", x.spread(), howMany.size());
+        row(x, howMany.get(best), leastCode.get(best), open);
+    }
+
     private static void spreadAndOdds() {
         edge("26, spread: of equally many the one of which the least CODE is least", () -> {
             InkFolds x = stairs(0);
@@ -2171,6 +2320,11 @@ public final class Edges {
             x.measure(54, 0, 0, 0);
             due("c 4 .. 8 are the most", x.spread(), 5);
             row(x, 5 * 729, 4000, 6561);
+        });
+        edge("26, spread: how many different COLOURS", () -> {
+            for (Maker maker : ALL) {
+                spreadOf(maker);
+            }
         });
         edge("26, spread: one BAND makes another COLOUR", () -> {
             for (int band = 0; band < 3; band++) {
@@ -2309,6 +2463,28 @@ public final class Edges {
             due("press", x.press(0), 2);
             row(x, 2, 0, 0, 0, 2 * 3 * 400 + 2 * 3 * 225);
         });
+        edge("31, press: each BAND by itself, as its WEIGHT is", () -> {
+            InkFolds x = new InkFolds();
+            x.paints(0, 350, 390, 390);
+            x.paints(1, 390, 350, 390);
+            x.paints(2, 390, 390, 350);
+            x.paints(3, 400, 400, 400);
+            say(x, "abc/dda");
+            for (int how = 0; how <= 1; how++) {
+                printed("each is there", say(x, "abc/dda"), how, 1000, 100, 10, 0, 0, 1000);
+                due("four CODES", x.press(how), 4);
+                row(x, 2, 1, 1, 0, 0);
+            }
+            x.paints(3, 400, 398, 395);
+            due("0 is next to 400, 398, 395", x.press(0), 4);
+            row(x, 2, 1, 1, 0, 2 * (4 + 25));
+            x.sets(5, 3);
+            x.press(0);
+            row(x, 2, 1, 1, 0, 2 * (12 + 25));
+            x.sets(6, 2);
+            x.press(0);
+            row(x, 2, 1, 1, 0, 2 * (12 + 50));
+        });
         edge("31, press: 1: handed on: half (cut to 0) to the right, the rest below", () -> {
             printed("-15: -7, -8", painted("aa/aa", 385), 1, 0, 0, 0, 1000);
             printed("15: 7, 8 of 365", painted("ab", 365, 370), 1, 1000, 0);
@@ -2326,6 +2502,32 @@ public final class Edges {
             printed("1: 1 below", painted("a/b", 351, 374), 1, 1000, 0);
             printed("-1: 0 to the right", painted("ab", 349, 375), 1, 1000, 0);
             printed("-1: -1 below", painted("a/b", 349, 375), 1, 1000, 1000);
+        });
+        edge("31, press: how many different CODES there are; the ROW: sums of AMOUNTS, and of DISTANCES to the letters", () -> {
+            InkFolds x = painted("aa/aa", 385);
+            x.picture();
+            due("each by itself", x.press(0), 1);
+            row(x, 0, 0, 0, 0, 4 * 675);
+            due("handed on", x.press(1), 2);
+            row(x, 1, 0, 0, 0, 3 * 675 + 3 * 35 * 35);
+            x.sets(1, 4);
+            due("with as much black as there can be", x.press(0), 1);
+            row(x, 0, 0, 0, 32, 4 * 675);
+            x = say(new InkFolds(), times(7, "hhhhhhhh/") + "hhhhhhhh");
+            x.paints(7, 400, 0, 400);
+            x.sets(4, 9);
+            x.sets(5, 9);
+            x.sets(6, 9);
+            due("64 CELLS", x.picture(), 64);
+            due("one CODE", x.press(0), 1);
+            int code = x.cell(0, 0);
+            long[] is = {x.row(0), x.row(1), x.row(2), x.row(3), x.row(4)};
+            x.match(400, 0, 400);
+            long distance = x.row(0);
+            for (int ink = 3, rest = code; ink >= 0; ink--, rest /= 10) {
+                due("64 times an AMOUNT", is[ink], 64 * (rest % 10));
+            }
+            due("64 times the DISTANCE", is[4], 64 * distance);
         });
         edge("31, press: 1: WANTED put to 0 .. 400", () -> {
             printed("409 is 400, nothing is left", painted("abc", 370, 399, 374), 1, 1000, 0, 1000);
@@ -2440,6 +2642,17 @@ public final class Edges {
             due("grey ones", x.greys(8, 0), 729);
             row(x, 8008, 0, 8, 1200);
         });
+        edge("34, greys: the sum of its three numbers", () -> {
+            for (int band = 0; band < 3; band++) {
+                InkFolds x = white();
+                x.measure(27, band == 0 ? 90 : 100, band == 1 ? 90 : 100, band == 2 ? 90 : 100);
+                x.measure(54, band == 0 ? 80 : 100, band == 1 ? 80 : 100, band == 2 ? 80 : 100);
+                due("all", x.greys(0, 80), 729);
+                row(x, 8000, 1120, 0, 1200);
+                due("c 0 .. 3", x.greys(0, 39), 4 * 81);
+                row(x, 3000, 1170, 0, 1200);
+            }
+        });
         edge("34, greys: OPEN ones", () -> {
             InkFolds x = white();
             x.sets(3, 4);
@@ -2448,6 +2661,9 @@ public final class Edges {
             row(x);
             x.sets(0, 8);
             due("TOTAL 8", x.greys(4, 0), 35);
+            x.sets(3, 8);
+            due("a single one", x.greys(8, 0), 1);
+            row(x, 8, 1200, 8, 1200);
         });
         edge("34, greys: NONE: k is not 0 .. 8", () -> {
             yes("0", full().greys(0, 1200) > 0);
@@ -2542,6 +2758,21 @@ public final class Edges {
             due("the greatest that there can be", x.doubt(), 80);
             row(x, 270000);
         });
+        edge("36, doubt: WEIGHT times the difference in each BAND", () -> {
+            for (int band = 0; band < 3; band++) {
+                InkFolds x = white();
+                x.sets(4 + band, 7);
+                for (int patch : PLAIN) {
+                    x.measure(patch, 90, 80, 70);
+                }
+                x.measure(44, 90, 80, 70);
+                due("as reckoned", x.doubt(), 44);
+                row(x, 0);
+                x.measure(44, band == 0 ? 87 : 90, band == 1 ? 77 : 80, band == 2 ? 67 : 70);
+                due("each BAND by itself", x.doubt(), 44);
+                row(x, 7 * 9);
+            }
+        });
         edge("37, asks: which counts (more than 0 times) in COLOURS of most OPEN ones; of equal ones the least; of 0, too", () -> {
             InkFolds x = new InkFolds();
             x.sets(0, 8);
@@ -2550,13 +2781,13 @@ public final class Edges {
             row(x, 44);
             x.measure(39, 1, 1, 1);
             due("0110, 1010 and 1100 alike", x.asks(), 12);
-            long most = x.row(0);
+            row(x, 31);
             x.measure(12, 1, 1, 1);
             due("the next of them", x.asks(), 30);
-            row(x, most);
+            row(x, 31);
             x.measure(30, 1, 1, 1);
             due("the last of them", x.asks(), 36);
-            row(x, most);
+            row(x, 31);
             x = new InkFolds();
             for (int patch = 0; patch < 80; patch++) {
                 x.measure(patch, 1, 1, 1);
@@ -2609,6 +2840,18 @@ public final class Edges {
             x.sets(3, 0);
             due("OPEN ones", x.other(0), 0);
             row(x);
+            x = white();
+            x.sets(0, 11);
+            x.sets(3, 0);
+            x.keep(0);
+            x.measure(75, 99, 100, 100);
+            due("2210 counts in one alone", x.other(0), 1);
+            row(x, 1, 5510);
+            x = white();
+            x.keep(0);
+            x.measure(0, 99, 99, 99);
+            due("those with a share of the paper", x.other(0), 256);
+            row(x, 3 * 16, 0);
         });
         edge("38, other: -2: nothing is kept under i; NONE: another i", () -> {
             refused("0", -2, x -> x.other(0), FRESH, HALF);
@@ -2629,6 +2872,22 @@ public final class Edges {
             }
             noSuchCodes("carry", (x, code) -> x.carry(0, code));
             noSuchCodes("carry", (x, code) -> x.carry(1, code));
+        });
+        edge("39, carry: each BAND by itself, as kept under i", () -> {
+            InkFolds x = new InkFolds();
+            x.keep(1);
+            for (int code : new int[] {0, 1, 10, 100, 1000, 40, 400, 4000}) {
+                due("LIGHT is the same", x.carry(1, code), code);
+                row(x, 0);
+            }
+            x.measure(27, 90, 50, 90);
+            x.measure(54, 80, 10, 80);
+            x.measure(9, 50, 90, 90);
+            x.measure(18, 10, 80, 80);
+            for (int a = 0; a <= 8; a++) {
+                due("c and m are changed about", x.carry(1, 1000 * a), 100 * a);
+                due("c and m are changed about", x.carry(1, 100 * a), 1000 * a);
+            }
         });
         edge("39, carry: a CODE that is not OPEN, and MATCH among OPEN ones", () -> {
             InkFolds x = stairs(0);
@@ -2796,7 +3055,78 @@ public final class Edges {
         });
     }
 
+    // ---- whatever is asked
+
+    private static long answerOf(Method call, InkFolds x, Object[] args) throws ReflectiveOperationException {
+        Object answer = call.invoke(x, args);
+        return answer instanceof Boolean ? ((Boolean) answer ? 1 : 0) : ((Number) answer).longValue();
+    }
+
+    private static void askWildly(Method call, int[] values) throws ReflectiveOperationException {
+        int n = call.getParameterCount();
+        int all = 1;
+        for (int i = 0; i < n; i++) {
+            all *= values.length;
+        }
+        InkFolds x = null;
+        for (int k = 0; k < all; k++) {
+            if (k % 300 == 0) {
+                x = ALL[k / 300 % 3].make();
+            }
+            Object[] args = new Object[n];
+            for (int i = 0, rest = k; i < n; i++, rest /= values.length) {
+                args[i] = values[rest % values.length];
+            }
+            try {
+                answerOf(call, x, args);
+            } catch (InvocationTargetException e) {
+                boolean may = call.getExceptionTypes().length > 0 && e.getCause() instanceof NoSuchElementException;
+                if (!may) {
+                    fault(call.getName() + " of " + Arrays.toString(args) + " threw " + e.getCause());
+                }
+            }
+        }
+    }
+
+    private static void wild() {
+        edge("no call throws but light, bent and row, and these a NoSuchElementException", () -> {
+            try {
+                for (Method call : InkFolds.class.getDeclaredMethods()) {
+                    if (Modifier.isPublic(call.getModifiers())) {
+                        boolean many = call.getParameterCount() > 3;
+                        askWildly(call, many ? new int[] {LEAST, -1, 0, 3, 100, MOST}
+                            : new int[] {LEAST, -9, -1, 0, 1, 3, 8, 80, 81, 400, 401, 8888, MOST});
+                    }
+                }
+            } catch (ReflectiveOperationException e) {
+                fault(e.toString());
+            }
+        });
+        edge("no text makes a call that reads it throw", () -> {
+            Call[] readers = {x -> x.patches(), x -> x.curve(0), x -> x.link(), x -> x.picture(), x -> x.day()};
+            String signs = "lvguaswhxnoijp()cmykefdbtzq/0123456789:" + (char) 0 + (char) 255;
+            long r = 1;
+            InkFolds x = null;
+            for (int k = 0; k < 30000; k++) {
+                x = k % 15 == 0 ? ALL[k / 15 % 3].make() : x;
+                StringBuilder s = new StringBuilder();
+                int n = k % 81;
+                for (int i = 0; i < n; i++) {
+                    r = r * 6364136223846793005L + 1442695040888963407L;
+                    s.append(signs.charAt((int) (r >>> 33) % signs.length()));
+                }
+                try {
+                    long answer = readers[k % 5].of(say(x, s.toString()));
+                    yes("the place of a sign " + answer, answer >= -82 || answer == -200 || answer == -201);
+                } catch (RuntimeException e) {
+                    fault("the text " + s + " threw " + e);
+                }
+            }
+        });
+    }
+
     public static void main(String[] args) {
+        wild();
         termsOfPatches();
         termsOfColours();
         termsOfMatch();
