@@ -674,7 +674,7 @@ public final class InkFolds {
 
     private int linked(int place) {
         inks.load(place);
-        inks.change(now.link, now.curves);
+        Inks.doSteps(inks, now.link.first, now.curves, 0);
         return inks.place();
     }
 
@@ -1417,20 +1417,16 @@ public final class InkFolds {
                     + Math.min(amounts[2], most) + amounts[3];
         }
 
-        void change(Link link, int[] curves) {
-            doSteps(link.first, curves, 0);
-        }
-
-        private void doSteps(Step begin, int[] curves, int depth) {
+        private static void doSteps(Inks inks, Step begin, int[] curves, int depth) {
             if (depth > MOST_DEPTH) {
                 return;
             }
             for (Step step = begin; step != null; step = step.next) {
-                int times = timesOf(step);
+                int times = inks.timesOf(step);
                 for (int n = 0; n < times; n++) {
-                    doSteps(step.inner, curves, depth + 1);
+                    doSteps(inks, step.inner, curves, depth + 1);
                 }
-                doOne(step, curves);
+                inks.doOne(step, curves);
             }
         }
 

@@ -135,9 +135,22 @@ public final class Rules {
             if (method.group().split("\n").length > 60) {
                 fault(method.group(2) + " has more than 60 lines");
             }
+            checkRecursion(method.group(2), method.group());
         }
         if (found < 100) {
             fault("only " + found + " methods were found");
+        }
+    }
+
+    /** Only a private static method may call itself, with the depth as an argument (rule 8). */
+    private static void checkRecursion(String head, String method) {
+        Matcher name = Pattern.compile("(\\w+)\\(").matcher(head);
+        String body = method.substring(method.indexOf('{') + 1);
+        if (!name.find() || !Pattern.compile("(?<![.\\w]|new )" + name.group(1) + "\\(").matcher(body).find()) {
+            return;
+        }
+        if (!head.startsWith("private static ") || !head.contains("int depth")) {
+            fault(head + " calls itself");
         }
     }
 
