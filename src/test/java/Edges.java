@@ -666,6 +666,27 @@ public final class Edges {
             x.measure(9, 75, 75, 75);
             due("one of c, not two of m: the least TOTAL ahead of the least CODE", x.match(350, 350, 350), 1000);
         });
+        edge("terms 1, equally near: the lesser one, though the other one is of less DISTANCE", () -> {
+            InkFolds x = white();
+            x.measure(1, 50, 50, 50);
+            x.measure(2, 99, 99, 99);
+            due("SLACK 0: the one that there is", x.match(396, 396, 396), 8);
+            row(x, 0, 8, 8, 729);
+            x.sets(2, 3 * 16);
+            due("0 and 8 to 4", x.match(396, 396, 396), 0);
+            row(x, 3 * 16, 0, 8, 2 * 729);
+            x.sets(1, 3);
+            due("8 is nearer to 6", x.match(396, 396, 396), 8);
+            row(x, 0, 0, 8, 2 * 729);
+        });
+        edge("terms 1, the least DISTANCE by 1 comes ahead of the least TOTAL by 15", () -> {
+            InkFolds x = white();
+            x.measure(78, 99, 100, 100);
+            x.sets(1, 0);
+            x.sets(2, 1);
+            due("fifteen, not none", x.match(399, 400, 400), 5550);
+            due("none", x.match(400, 400, 400), 0);
+        });
         edge("terms 1, AMOUNT of k comes ahead of DISTANCE", () -> {
             InkFolds x = stairs(3);
             x.sets(1, 4);
@@ -2699,6 +2720,23 @@ public final class Edges {
             due("the least CODE", x.replaces(1, 2000, 0), 200);
             due("the least CODE", x.replaces(2, 2000, 0), 200);
             due("the least CODE", x.replaces(0, 2000, 0), 208);
+        });
+        edge("35, replaces: one of k, or of TOTAL, comes ahead of many of the other", () -> {
+            InkFolds x = white();
+            x.measure(2, 99, 100, 100);
+            x.measure(80, 100, 100, 100);
+            due("0: one more of k, sixteen more of TOTAL", x.replaces(0, 0, 9), 5558);
+            due("0: two more of k, nineteen more of TOTAL", x.replaces(0, 0, 4), 6668);
+            x = stairs(0);
+            x.measure(1, 50, 50, 50);
+            x.measure(2, 13, 13, 13);
+            due("1: one less of TOTAL, eight less of k", x.replaces(1, 7000, 12), 7000);
+            due("0: the eight of k", x.replaces(0, 7000, 12), 8);
+            x = white();
+            x.measure(1, 99, 100, 100);
+            x.measure(78, 99, 100, 100);
+            due("2: one less of k, fourteen more of TOTAL", x.replaces(2, 1, 0), 5550);
+            due("1: fourteen less of TOTAL", x.replaces(1, 1, 0), 1);
         });
         edge("35, replaces: -2: there is none", () -> {
             for (int how = 0; how <= 2; how++) {

@@ -1175,7 +1175,18 @@ public final class Promises {
         due("44 an empty one", thrown(() -> x.row(0)), 1);
     }
 
+    /** The example that README.md tells: 4442 is grey as six of k, and g4 makes that of it. */
+    private static void readme() {
+        InkFolds inks = new InkFolds();
+        inks.sign(0x67340000);
+        inks.end(2);
+        due("README link", inks.link(), 1);
+        due("README prints", inks.prints(120, 130, 110), 6);
+        row("README the ROW", inks, 120, 120, 120, 200);
+    }
+
     public static void main(String[] args) {
+        readme();
         p1New();
         p2Sign();
         p3End();
