@@ -2341,6 +2341,11 @@ public final class Edges {
             x.measure(54, 0, 0, 0);
             due("c 4 .. 8 are the most", x.spread(), 5);
             row(x, 5 * 729, 4000, 6561);
+            x = white();
+            x.measure(1, 96, 96, 96);
+            x.measure(2, 99, 99, 99);
+            due("one of k is as eight of k", x.spread(), 8);
+            row(x, 2 * 729, 1, 6561);
         });
         edge("26, spread: how many different COLOURS", () -> {
             for (Maker maker : ALL) {
@@ -2605,6 +2610,26 @@ public final class Edges {
             row(x, 7 * 7500);
             due("another ink", x.slips(1, 8, 8), 0);
             row(x, 0);
+        });
+        edge("33, slips: PICTURE of one column, of one row, of one CELL", () -> {
+            InkFolds x = painted("b/a/a", 400, 350);
+            x.picture();
+            due("one above", x.slips(0, 0, 1), 2);
+            row(x, 2 * 7500);
+            due("one below", x.slips(0, 0, -1), 1);
+            row(x, 7500);
+            due("one to the left: 0", x.slips(0, 1, 0), 1);
+            x = painted("baa", 400, 350);
+            x.picture();
+            due("one to the left", x.slips(0, 1, 0), 2);
+            row(x, 2 * 7500);
+            due("one to the right", x.slips(0, -1, 0), 1);
+            due("one above: 0", x.slips(0, 0, 1), 1);
+            x = painted("b", 400, 350);
+            x.picture();
+            due("the CELL itself", x.slips(0, 0, 0), 0);
+            due("none", x.slips(0, 0, 1), 1);
+            row(x, 7500);
         });
         edge("33, slips: -2: no PICTURE; NONE: others", () -> {
             refused("no PICTURE", -2, x -> x.slips(0, 0, 0), FRESH);
